@@ -30,7 +30,7 @@ public final class PromisesTest {
         return x;
     }
 
-    /** 0 and 1 attack each other, 1 attacks 2, and 2, 3, 4 stand in a ring: the four kinds all differ or have edges. */
+    /** 0 and 1 attack each other, 1 attacks 2, and 2, 3, 4 stand in a ring, so that not every preferred set is stable. */
     private static ArgumentLabeller ringBehindChoice() {
         return with(5, 0, 1, 1, 0, 1, 2, 2, 3, 3, 4, 4, 2);
     }
