@@ -18,8 +18,12 @@ final class Definitions {
         attack[a][b] = there;
     }
 
+    boolean isArgument(int a) {
+        return a >= 0 && a < size;
+    }
+
     boolean isThere(int a, int b) {
-        return attack[a][b];
+        return isArgument(a) && isArgument(b) && attack[a][b];
     }
 
     int clear() {
@@ -75,6 +79,23 @@ final class Definitions {
             }
         }
         return found;
+    }
+
+    int union(List<Integer> sets) {
+        int union = 0;
+        for (int set : sets) {
+            union |= set;
+        }
+        return union;
+    }
+
+    /** All arguments if there is no set. */
+    int common(List<Integer> sets) {
+        int common = all();
+        for (int set : sets) {
+            common &= set;
+        }
+        return common;
     }
 
     private boolean isExtension(int kind, int set, List<Integer> admissible) {

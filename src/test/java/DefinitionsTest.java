@@ -11,7 +11,11 @@ public final class DefinitionsTest {
             for (int outOf = 2; outOf <= 9; outOf++) {
                 scatteredFrameworks(size, outOf, 40);
             }
-            longRun(size);
+        }
+        for (int size = 2; size <= 8; size++) {
+            for (int density = 1; density <= 6; density++) {
+                longRun(size, density);
+            }
         }
         CHECKS.end();
     }
@@ -47,58 +51,86 @@ public final class DefinitionsTest {
         }
     }
 
-    /** Changes and questions in turn on one object, within the 512 calls that the document allows. */
-    private static void longRun(int size) {
+    /**
+     * Changes, questions and refused calls in turn on one object, all 512 calls that the document allows. About so many of
+     * ten possible attacks are there in the end, as density says.
+     */
+    private static void longRun(int size, int density) {
         ArgumentLabeller x = new ArgumentLabeller(size);
         Definitions d = new Definitions(size);
-        long state = size;
-        for (int call = 0; call < 512; call++) {
+        long state = size * 100L + density;
+        for (int call = 1; call <= 512; call++) {
             state = next(state);
-            int what = pick(state, 60);
+            int what = pick(state, 100);
             state = next(state);
-            int a = pick(state, size);
+            int a = number(state, size);
             state = next(state);
-            int b = pick(state, size);
-            String name = "size " + size + " call " + call + " ";
-            if (what < 20) {
-                CHECKS.due(name + "attack", x.attack(a, b), d.isThere(a, b) ? 0 : 1);
-                d.set(a, b, true);
-            } else if (what < 40) {
-                CHECKS.due(name + "withdraw", x.withdraw(a, b), d.isThere(a, b) ? 1 : 0);
-                d.set(a, b, false);
-            } else if (what < 42) {
+            int b = number(state, size);
+            String name = "size " + size + " density " + density + " call " + call + " ";
+            if (what < 50) {
+                state = next(state);
+                changeOne(name, x, d, pick(state, 10) < density, a, b);
+            } else if (what < 51) {
                 CHECKS.due(name + "clear", x.clear(), d.clear());
-            } else if (what < 46) {
-                CHECKS.due(name + "attacks", x.attacks(a, b), d.isThere(a, b));
-            } else if (what < 48) {
+            } else if (what < 60) {
+                CHECKS.due(name + "attacks(" + a + ", " + b + ")", x.attacks(a, b), d.isThere(a, b));
+            } else if (what < 68) {
                 CHECKS.due(name + "grounded", x.grounded(), d.grounded());
             } else {
-                compareOne(name, x, d, what % 4, a);
+                state = next(state);
+                int kind = number(state, 4);
+                state = next(state);
+                askOne(name, x, d, what % 4, kind, number(state, 4));
             }
         }
     }
 
-    private static void compareOne(String name, ArgumentLabeller x, Definitions d, int kind, int k) {
-        List<Integer> due = d.extensions(kind);
-        CHECKS.due(name + "extension(" + kind + ", " + k + ")", x.extension(kind, k),
-                k < due.size() ? due.get(k) : ArgumentLabeller.NONE);
+    private static void changeOne(String name, ArgumentLabeller x, Definitions d, boolean add, int a, int b) {
+        boolean bad = !d.isArgument(a) || !d.isArgument(b);
+        int there = d.isThere(a, b) ? 1 : 0;
+        if (add) {
+            CHECKS.due(name + "attack(" + a + ", " + b + ")", x.attack(a, b), bad ? ArgumentLabeller.BAD : 1 - there);
+        } else {
+            CHECKS.due(name + "withdraw(" + a + ", " + b + ")", x.withdraw(a, b), bad ? ArgumentLabeller.BAD : there);
+        }
+        if (!bad) {
+            d.set(a, b, add);
+        }
+    }
+
+    private static void askOne(String name, ArgumentLabeller x, Definitions d, int question, int kind, int k) {
+        boolean bad = kind < 0 || kind > 3;
+        List<Integer> due = bad ? List.of() : d.extensions(kind);
+        if (question == 0) {
+            CHECKS.due(name + "count(" + kind + ")", x.count(kind), bad ? ArgumentLabeller.BAD : due.size());
+        } else if (question == 1) {
+            CHECKS.due(name + "inSome(" + kind + ")", x.inSome(kind), bad ? ArgumentLabeller.BAD : d.union(due));
+        } else if (question == 2) {
+            CHECKS.due(name + "inEvery(" + kind + ")", x.inEvery(kind), bad ? ArgumentLabeller.BAD : d.common(due));
+        } else {
+            int set = k >= 0 && k < due.size() ? due.get(k) : ArgumentLabeller.NONE;
+            CHECKS.due(name + "extension(" + kind + ", " + k + ")", x.extension(kind, k), bad ? ArgumentLabeller.BAD : set);
+        }
+    }
+
+    /** Mostly a number below the bound, now and then one outside. */
+    private static int number(long state, int bound) {
+        int[] outside = {-1, bound, Integer.MIN_VALUE, Integer.MAX_VALUE};
+        int drawn = pick(state, 16 * bound);
+        return drawn < outside.length ? outside[drawn] : drawn % bound;
     }
 
     private static void compare(String name, ArgumentLabeller x, Definitions d) {
         CHECKS.due(name + " grounded()", x.grounded(), d.grounded());
         for (int kind = 0; kind <= 3; kind++) {
             List<Integer> due = d.extensions(kind);
-            int some = 0;
-            int every = d.all();
             for (int k = 0; k < due.size(); k++) {
                 CHECKS.due(name + " extension(" + kind + ", " + k + ")", x.extension(kind, k), due.get(k));
-                some |= due.get(k);
-                every &= due.get(k);
             }
             CHECKS.due(name + " extension(" + kind + ", count)", x.extension(kind, due.size()), ArgumentLabeller.NONE);
             CHECKS.due(name + " count(" + kind + ")", x.count(kind), due.size());
-            CHECKS.due(name + " inSome(" + kind + ")", x.inSome(kind), some);
-            CHECKS.due(name + " inEvery(" + kind + ")", x.inEvery(kind), every);
+            CHECKS.due(name + " inSome(" + kind + ")", x.inSome(kind), d.union(due));
+            CHECKS.due(name + " inEvery(" + kind + ")", x.inEvery(kind), d.common(due));
         }
     }
 
