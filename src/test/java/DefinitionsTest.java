@@ -7,7 +7,8 @@ public final class DefinitionsTest {
     public static void main(String[] args) {
         allFrameworks(2);
         allFrameworks(3);
-        for (int size = 4; size <= 8; size++) {
+        allFrameworks(4);
+        for (int size = 5; size <= 8; size++) {
             for (int outOf = 2; outOf <= 9; outOf++) {
                 scatteredFrameworks(size, outOf, 40);
             }

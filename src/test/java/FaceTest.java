@@ -25,6 +25,10 @@ public final class FaceTest {
         Checks checks = new Checks();
         Class<?> face = ArgumentLabeller.class;
         checks.due("public final", face.getModifiers(), Modifier.PUBLIC | Modifier.FINAL);
+        checks.due("extends nothing", face.getSuperclass() == Object.class, true);
+        checks.due("implements nothing", face.getInterfaces().length, 0);
+        checks.due("no class within", face.getDeclaredClasses().length, 0);
+        constantsCanBeCaseLabels(checks);
         Set<String> open = openMembers(face);
         for (String member : DUE) {
             checks.due("has " + member, open.contains(member), true);
@@ -33,6 +37,27 @@ public final class FaceTest {
             checks.due("may have " + member, DUE.contains(member), true);
         }
         checks.end();
+    }
+
+    /** Compiles only if the six are constants to the compiler and no two of them are equal. */
+    private static void constantsCanBeCaseLabels(Checks checks) {
+        for (int value = -2; value <= 3; value++) {
+            switch (value) {
+                case ArgumentLabeller.COMPLETE:
+                case ArgumentLabeller.PREFERRED:
+                case ArgumentLabeller.STABLE:
+                case ArgumentLabeller.SEMISTABLE:
+                    checks.due("kind " + value, value >= 0, true);
+                    break;
+                case ArgumentLabeller.BAD:
+                case ArgumentLabeller.NONE:
+                    checks.due("no kind " + value, value < 0, true);
+                    break;
+                default:
+                    checks.due("a constant for", value + "", "one of the six");
+                    break;
+            }
+        }
     }
 
     private static Set<String> openMembers(Class<?> face) throws IllegalAccessException {

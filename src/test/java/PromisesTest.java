@@ -17,6 +17,7 @@ public final class PromisesTest {
         promise8InSome();
         promise9InEvery();
         promise10Clear();
+        changeTouchesThatOneAttackAlone();
         questionsChangeNothing();
         objectsAreApart();
         CHECKS.end();
@@ -248,6 +249,26 @@ public final class PromisesTest {
             full.attack(place / 8, place % 8);
         }
         CHECKS.due("10: every attack there can be", full.clear(), 64);
+    }
+
+    private static void changeTouchesThatOneAttackAlone() {
+        for (Frameworks.Shape shape : Frameworks.Shape.values()) {
+            for (int place = 0; place < 25; place++) {
+                ArgumentLabeller x = Frameworks.shaped(shape, 5);
+                boolean there = shape.has(place / 5, place % 5, 5);
+                CHECKS.due("2: " + shape + " attack at " + place, x.attack(place / 5, place % 5), there ? 0 : 1);
+                othersAreAsShaped("2: " + shape + " attack at ", x, shape, place, true);
+                CHECKS.due("3: " + shape + " withdraw at " + place, x.withdraw(place / 5, place % 5), 1);
+                othersAreAsShaped("3: " + shape + " withdraw at ", x, shape, place, false);
+            }
+        }
+    }
+
+    private static void othersAreAsShaped(String name, ArgumentLabeller x, Frameworks.Shape shape, int changed, boolean there) {
+        for (int place = 0; place < 25; place++) {
+            boolean due = place == changed ? there : shape.has(place / 5, place % 5, 5);
+            CHECKS.due(name + changed + ", then " + place, x.attacks(place / 5, place % 5), due);
+        }
     }
 
     private static void questionsChangeNothing() {
